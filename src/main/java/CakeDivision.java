@@ -406,7 +406,6 @@ public final class CakeDivision {
             throw new IllegalStateException("nothing is saved in the slot");
         }
         memory.restoreFrom(slot, cake);
-        memory.undoable = 0;
         return cake.countOwned(NONE);
     }
 
@@ -841,7 +840,7 @@ public final class CakeDivision {
         }
     }
 
-    /** The division procedures; they write to a row of owners that they are given, so that they can be tried out. */
+    /** The division procedures; those that can be tried out write to a row of owners that they are given. */
     private static final class Procedures {
         private final int[] trial = new int[MAX_CELLS];
         private final Cake cake;
@@ -1021,7 +1020,7 @@ public final class CakeDivision {
             return greatestSums[all * ENDS + cake.cells];
         }
 
-        /** Takes the divisions in account in which the last piece goes to the sibling. */
+        /** Takes the divisions into account in which the last piece goes to the sibling. */
         private void raiseSums(int group, int sibling) {
             int row = group * ENDS;
             int rowWithout = (group - (1 << sibling)) * ENDS;
@@ -1035,7 +1034,7 @@ public final class CakeDivision {
             }
         }
 
-        /** Builds the worth from its greatest power of two down: what a worth allows, every lesser one allows too. */
+        /** Adds up powers of two, the greatest first: if each can have a worth, each can have any lesser one. */
         int findGreatestLeast() {
             int worth = 0;
             for (int step = GREATEST_STEP; step > 0; step /= 2) {
@@ -1104,6 +1103,7 @@ public final class CakeDivision {
 
         void restoreFrom(int slot, Cake cake) {
             bringBack(MAX_UNDO + slot, cake);
+            undoable = 0;
         }
 
         void forgetAll() {
@@ -1273,6 +1273,7 @@ public final class CakeDivision {
         private int kind;
         private int start;
         private int end;
+        /** The number that was read last, or the number of the sibling whose name was. */
         private int taken;
         private final Text text;
 

@@ -139,6 +139,9 @@ public final class ChangesTest {
         // c and d both have mark 0: c gets cell 0; then d's mark is 1 like the others', and a gets cell 1.
         CHECK.same("movingKnife with too few cells", few.movingKnife(), 3);
         CHECK.same("two get nothing", Cakes.owners(few), "20");
+        CakeDivision rest = Cakes.of("cake 3;sibling a 0 1 0;sibling b 1 0 0;");
+        CHECK.same("movingKnife with cells behind the last mark", rest.movingKnife(), 2);
+        CHECK.same("the last sibling gets all the rest", Cakes.owners(rest), "100");
         CakeDivision last = Cakes.of("cake 3;sibling a 0 0 5;sibling b 0 0 5;");
         CHECK.same("movingKnife up to the last cell", last.movingKnife(), 1);
         CHECK.same("nothing is left", Cakes.owners(last), "000");

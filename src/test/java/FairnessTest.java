@@ -95,6 +95,7 @@ public final class FairnessTest {
 
     private static void mostEnvied() {
         CHECK.same("a tie", graph("1", "0", "").mostEnvied(), 0);
+        CHECK.same("a single envy", graph("1", "", "").mostEnvied(), 1);
         CHECK.same("a later tie", graph("12", "", "1", "2").mostEnvied(), 1);
         CHECK.same("the last sibling", graph("5", "5", "0", "0", "5", "").mostEnvied(), 5);
         CHECK.same("all envy one", graph("2", "2", "", "2", "2", "2").mostEnvied(), 2);

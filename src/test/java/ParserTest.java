@@ -15,6 +15,8 @@ public final class ParserTest {
         scriptNumbers();
         manyCommands();
         latestText();
+        bytesCutOff();
+        fullBuffer();
         CHECK.finish();
     }
 
@@ -52,6 +54,7 @@ public final class ParserTest {
         setup(" \n ", 1, 3);
         setup("cakes 1;sibling a 1;", 1, 0);
         setup("cak 1;sibling a 1;", 1, 0);
+        setup("bake 1;sibling a 1;", 1, 0);
         setup(" coke 1;sibling a 1;", 1, 1);
         setup("1", 1, 0);
         setup(";", 1, 0);
@@ -161,6 +164,8 @@ public final class ParserTest {
         script("ann", 1, 0);
         script("knives;", 1, 0);
         script("knif;", 1, 0);
+        script("snife;", 1, 0);
+        script("kniff;", 1, 0);
         script("knife", 1, 5);
         script("knife ann;", 1, 6);
         script("knife;knife", 1, 11);
@@ -218,6 +223,33 @@ public final class ParserTest {
         script(thirty + ";", 1, 180);
         script(thirty + "5", 1, 180);
         script("swap ann bob;".repeat(29) + "swap dan ann;knife;", 3, 382);
+    }
+
+    private static void bytesCutOff() {
+        CakeDivision cake = new CakeDivision();
+        Cakes.type(cake, "cake 1;sibling a 12;");
+        cake.truncate(18);
+        CHECK.throwing("load", IllegalArgumentException.class, () -> cake.load());
+        tell(cake, "a text without its last digit", 1, 18);
+        Cakes.type(cake, "knife;knifes");
+        cake.truncate(6);
+        CHECK.same("a script without its second command", cake.runScript(), 1);
+        Cakes.type(cake, "knife;knifes");
+        cake.truncate(11);
+        CHECK.throwing("runScript", IllegalArgumentException.class, () -> cake.runScript());
+        tell(cake, "a script without its last letter", 1, 11);
+    }
+
+    private static void fullBuffer() {
+        setup(" ".repeat(600), 1, 600);
+        setup(" ".repeat(596) + "cake", 1, 600);
+        setup(" ".repeat(594) + "cake 1", 1, 600);
+        setup(" ".repeat(593) + "cake 12", 1, 600);
+        script(" ".repeat(600), LOADED, -1);
+        script(" ".repeat(594) + "knife;", LOADED, -1);
+        script(" ".repeat(595) + "knife", 1, 600);
+        script("?".repeat(600), 1, 0);
+        script(" ".repeat(599) + "?", 1, 599);
     }
 
     /** Both calls tell of the latest text only, and other calls do not touch them. */

@@ -10,6 +10,8 @@ public final class WelfareTest {
         contiguous();
         contiguousEdges();
         contiguousByTrial();
+        contiguousAgain();
+        leastOfEachTotal();
         cuts();
         satisfaction();
         meanPieces();
@@ -137,6 +139,33 @@ public final class WelfareTest {
                     tryPieces(cake, served | 1 << sibling, end, sum + worth, Math.min(least, worth), best);
                 }
             }
+        }
+    }
+
+    /** What an earlier call found must not count in a later one. */
+    private static void contiguousAgain() {
+        CakeDivision cake = Cakes.of(equal(4, 3, 9));
+        CHECK.same("greatestContiguousWelfare", cake.greatestContiguousWelfare(), 36);
+        CHECK.same("bestLeastWelfare", cake.bestLeastWelfare(), 9);
+        Cakes.load(cake, equal(4, 3, 1));
+        CHECK.same("greatestContiguousWelfare of lesser values", cake.greatestContiguousWelfare(), 4);
+        CHECK.same("bestLeastWelfare of lesser values", cake.bestLeastWelfare(), 1);
+        cake.setValue(0, 3, 0);
+        cake.setValue(1, 3, 0);
+        cake.setValue(2, 3, 0);
+        CHECK.same("greatestContiguousWelfare without the last cell", cake.greatestContiguousWelfare(), 3);
+        Cakes.load(cake, "cake 2;sibling a 1 0;sibling b 0 0;");
+        CHECK.same("greatestContiguousWelfare of fewer cells", cake.greatestContiguousWelfare(), 1);
+        CHECK.same("bestLeastWelfare of fewer cells", cake.bestLeastWelfare(), 0);
+    }
+
+    /** One sibling gets the whole cake, whatever it is worth. */
+    private static void leastOfEachTotal() {
+        CakeDivision cake = Cakes.of(equal(24, 1, 0));
+        for (int total = 1; total <= 216; total++) {
+            cake.setValue(0, (total - 1) / 9, (total - 1) % 9 + 1);
+            CHECK.same("total", cake.total(0), total);
+            CHECK.same("bestLeastWelfare of " + total, cake.bestLeastWelfare(), total);
         }
     }
 
