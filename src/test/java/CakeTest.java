@@ -3,8 +3,6 @@ public final class CakeTest {
     private static final Check CHECK = new Check("CakeTest");
     private static final Class<IndexOutOfBoundsException> NO_INDEX = IndexOutOfBoundsException.class;
     private static final Class<IllegalArgumentException> NO_ARGUMENT = IllegalArgumentException.class;
-    private static final int[] OUTSIDE = {-1, 3, 6, Integer.MIN_VALUE, Integer.MAX_VALUE};
-    private static final int[] OUTSIDE_CELLS = {-1, 8, 24, Integer.MIN_VALUE, Integer.MAX_VALUE};
 
     public static void main(String[] args) {
         counts();
@@ -16,7 +14,6 @@ public final class CakeTest {
         worthOfShare();
         sizes();
         mark();
-        markExceptions();
         favourite();
         CHECK.finish();
     }
@@ -47,12 +44,6 @@ public final class CakeTest {
         CHECK.same("value(0, 3)", cake.value(0, 3), 4);
         CHECK.same("value(1, 7)", cake.value(1, 7), 9);
         CHECK.same("value(2, 0)", cake.value(2, 0), 1);
-        for (int sibling : OUTSIDE) {
-            CHECK.refused("value of no sibling", cake, NO_INDEX, () -> cake.value(sibling, 0));
-        }
-        for (int cell : OUTSIDE_CELLS) {
-            CHECK.refused("value of no cell", cake, NO_INDEX, () -> cake.value(0, cell));
-        }
     }
 
     private static void owner() {
@@ -60,9 +51,6 @@ public final class CakeTest {
         cake.give(2, 7, 7);
         CHECK.same("owner(7)", cake.owner(7), 2);
         CHECK.same("owner(0)", cake.owner(0), CakeDivision.NONE);
-        for (int cell : OUTSIDE_CELLS) {
-            CHECK.refused("owner of no cell", cake, NO_INDEX, () -> cake.owner(cell));
-        }
     }
 
     private static void worth() {
@@ -73,14 +61,6 @@ public final class CakeTest {
         CHECK.same("worth(1, 1, 7)", cake.worth(1, 1, 7), 9);
         CHECK.same("worth(1, 0, 6)", cake.worth(1, 0, 6), 9);
         CHECK.refused("worth(0, 3, 2)", cake, NO_ARGUMENT, () -> cake.worth(0, 3, 2));
-        for (int cell : OUTSIDE_CELLS) {
-            CHECK.refused("worth from no cell", cake, NO_ARGUMENT, () -> cake.worth(0, cell, 7));
-            CHECK.refused("worth to no cell", cake, NO_ARGUMENT, () -> cake.worth(0, 0, cell));
-        }
-        for (int sibling : OUTSIDE) {
-            CHECK.refused("worth for no sibling", cake, NO_INDEX, () -> cake.worth(sibling, 0, 1));
-            CHECK.refused("worth for no sibling of no cells", cake, NO_INDEX, () -> cake.worth(sibling, 3, -2));
-        }
     }
 
     private static void total() {
@@ -88,9 +68,6 @@ public final class CakeTest {
         CHECK.same("total(0)", cake.total(0), 20);
         CHECK.same("total(1)", cake.total(1), 18);
         CHECK.same("total(2)", cake.total(2), 8);
-        for (int sibling : OUTSIDE) {
-            CHECK.refused("total of no sibling", cake, NO_INDEX, () -> cake.total(sibling));
-        }
         CHECK.same("a total of 0", Cakes.of("cake 2;sibling a 0 0;").total(0), 0);
     }
 
@@ -104,10 +81,6 @@ public final class CakeTest {
         CHECK.same("worthOfShare(2, 1)", cake.worthOfShare(2, 1), 2);
         cake.release(7, 7);
         CHECK.same("worth of an empty share", cake.worthOfShare(0, 2), 0);
-        for (int sibling : OUTSIDE) {
-            CHECK.refused("worthOfShare for no sibling", cake, NO_INDEX, () -> cake.worthOfShare(sibling, 0));
-            CHECK.refused("worthOfShare of no sibling", cake, NO_INDEX, () -> cake.worthOfShare(0, sibling));
-        }
     }
 
     private static void sizes() {
@@ -125,10 +98,6 @@ public final class CakeTest {
         cake.give(2, 0, 7);
         CHECK.same("the whole cake is one piece", cake.pieceCount(2), 1);
         CHECK.same("no cell is free", cake.freeCount(), 0);
-        for (int sibling : OUTSIDE) {
-            CHECK.refused("shareSize of no sibling", cake, NO_INDEX, () -> cake.shareSize(sibling));
-            CHECK.refused("pieceCount of no sibling", cake, NO_INDEX, () -> cake.pieceCount(sibling));
-        }
     }
 
     private static void mark() {
@@ -150,19 +119,6 @@ public final class CakeTest {
         CHECK.same("a mark of nothing farther right", worthless.mark(1, 1, 5), 1);
     }
 
-    private static void markExceptions() {
-        CakeDivision cake = new CakeDivision();
-        for (int sibling : OUTSIDE) {
-            CHECK.refused("mark for no sibling", cake, NO_INDEX, () -> cake.mark(sibling, 0, 0));
-        }
-        for (int cell : OUTSIDE_CELLS) {
-            CHECK.refused("mark from no cell", cake, NO_INDEX, () -> cake.mark(0, cell, 25));
-        }
-        for (int parts : new int[] {0, -1, 25, Integer.MIN_VALUE, Integer.MAX_VALUE}) {
-            CHECK.refused("mark for no parts", cake, NO_ARGUMENT, () -> cake.mark(0, 0, parts));
-        }
-    }
-
     private static void favourite() {
         CakeDivision cake = new CakeDivision();
         CHECK.same("favouriteFreeCell(0)", cake.favouriteFreeCell(0), 3);
@@ -173,8 +129,5 @@ public final class CakeTest {
         CHECK.same("a favourite without value", cake.favouriteFreeCell(1), 1);
         cake.give(0, 0, 7);
         CHECK.same("no cell is free", cake.favouriteFreeCell(0), CakeDivision.NONE);
-        for (int sibling : OUTSIDE) {
-            CHECK.refused("favourite of no sibling", cake, NO_INDEX, () -> cake.favouriteFreeCell(sibling));
-        }
     }
 }

@@ -1,8 +1,19 @@
 /** What the tests do often with a CakeDivision. */
 final class Cakes {
     private static final int APPENDED = 20;
+    private static final int MAX_TEXT = 600;
 
     private Cakes() {
+    }
+
+    /** A setup in which all siblings value all cells the same; their names are a, b, c and so on. */
+    static String equal(int cells, int siblings, int value) {
+        StringBuilder setup = new StringBuilder("cake " + cells + ";");
+        for (int sibling = 0; sibling < siblings; sibling++) {
+            setup.append("sibling ").append((char) ('a' + sibling));
+            setup.append((" " + value).repeat(cells)).append(';');
+        }
+        return setup.toString();
     }
 
     /** A new object with this setup. */
@@ -42,7 +53,8 @@ final class Cakes {
     /** The owner of every cell, a digit for each, a hyphen for a free cell. */
     static String owners(CakeDivision cake) {
         StringBuilder owners = new StringBuilder();
-        for (int cell = 0; cell < cake.cellCount(); cell++) {
+        int cells = cake.cellCount();
+        for (int cell = 0; cell < cells; cell++) {
             int owner = cake.owner(cell);
             owners.append(owner == CakeDivision.NONE ? "-" : String.valueOf(owner));
         }
@@ -60,9 +72,26 @@ final class Cakes {
         }
     }
 
+    /** A cake in which sibling i owns cell i and envies just those whose digits the i-th text tells. */
+    static CakeDivision envying(String... envied) {
+        StringBuilder setup = new StringBuilder("cake " + envied.length + ";");
+        for (int sibling = 0; sibling < envied.length; sibling++) {
+            setup.append("sibling ").append((char) ('a' + sibling));
+            for (int cell = 0; cell < envied.length; cell++) {
+                boolean envies = envied[sibling].indexOf('0' + cell) >= 0;
+                setup.append(cell == sibling ? " 3" : envies ? " 4" : " 2");
+            }
+            setup.append(';');
+        }
+        CakeDivision cake = of(setup.toString());
+        share(cake, "012345".substring(0, envied.length));
+        return cake;
+    }
+
     static String values(CakeDivision cake, int sibling) {
         StringBuilder values = new StringBuilder();
-        for (int cell = 0; cell < cake.cellCount(); cell++) {
+        int cells = cake.cellCount();
+        for (int cell = 0; cell < cells; cell++) {
             values.append(cake.value(sibling, cell));
         }
         return values.toString();
@@ -92,23 +121,33 @@ final class Cakes {
         return output.toString();
     }
 
-    /** A greater length than that of the buffer is refused, and its own length changes nothing. */
+    /** Appending tells the length and truncating takes back what was appended, unless the buffer is too full. */
     static int bufferLength(CakeDivision cake) {
-        for (int length = 600; length > 0; length--) {
+        try {
+            return cake.truncate(cake.append(0, 0, 0, 0, 0) - APPENDED);
+        } catch (IllegalStateException tooFull) {
+            return lengthOfFullBuffer(cake);
+        }
+    }
+
+    /** A greater length than that of the buffer is refused, and its own length changes nothing. */
+    private static int lengthOfFullBuffer(CakeDivision cake) {
+        for (int length = MAX_TEXT; length > MAX_TEXT - APPENDED; length--) {
             try {
                 return cake.truncate(length);
             } catch (IllegalArgumentException tooLong) {
                 continue;
             }
         }
-        return 0;
+        return CakeDivision.NONE;
     }
 
     /** All that can be asked without a change, but for the undo history and the saved states. */
     static String describe(CakeDivision cake) {
         StringBuilder text = new StringBuilder();
         text.append(cake.cellCount()).append(" cells ").append(owners(cake));
-        for (int sibling = 0; sibling < cake.siblingCount(); sibling++) {
+        int siblings = cake.siblingCount();
+        for (int sibling = 0; sibling < siblings; sibling++) {
             text.append(' ').append(name(cake, sibling)).append(' ').append(values(cake, sibling));
         }
         text.append(" error ").append(cake.errorCode()).append(" at ").append(cake.errorPosition());

@@ -1,11 +1,21 @@
 /** Compares answers with those that are due, tells the others, and ends the program with 1 if there were any. */
 final class Check {
     private final String name;
+    private String about = "";
     private int answers;
     private int wrong;
 
     Check(String name) {
         this.name = name;
+    }
+
+    /** Names what the answers from here on are about; it is told with each wrong one. */
+    void about(String subject) {
+        about = subject.isEmpty() ? "" : subject + ": ";
+    }
+
+    int answers() {
+        return answers;
     }
 
     void same(String call, long got, long due) {
@@ -35,6 +45,7 @@ final class Check {
         same(call + " leaves all as it was", Cakes.describe(cake), before);
     }
 
+    /** The call must throw exactly this class, or nothing if it is null. */
     void throwing(String call, Class<? extends RuntimeException> due, Runnable action) {
         String got = "nothing";
         try {
@@ -42,7 +53,8 @@ final class Check {
         } catch (RuntimeException thrown) {
             got = thrown.getClass().getName();
         }
-        note(call + " throws", got.equals(due.getName()), got, due.getName());
+        String dueName = due == null ? "nothing" : due.getName();
+        note(call + " throws", got.equals(dueName), got, dueName);
     }
 
     void finish() {
@@ -56,7 +68,7 @@ final class Check {
         answers++;
         if (!right) {
             wrong++;
-            System.out.println(name + ": " + call + " answered " + got + ", due is " + due);
+            System.out.println(name + ": " + about + call + " answered " + got + ", due is " + due);
         }
     }
 }

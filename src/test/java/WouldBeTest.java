@@ -1,8 +1,6 @@
 /** Promises 41 to 44: what would be; nothing changes. */
 public final class WouldBeTest {
     private static final Check CHECK = new Check("WouldBeTest");
-    private static final Class<IndexOutOfBoundsException> NO_INDEX = IndexOutOfBoundsException.class;
-    private static final int[] OUTSIDE = {-1, 3, 6, Integer.MIN_VALUE, Integer.MAX_VALUE};
 
     public static void main(String[] args) {
         cutFor();
@@ -28,9 +26,6 @@ public final class WouldBeTest {
         CakeDivision right = Cakes.of("cake 3;sibling a 1 1 3;sibling b 0 0 1;");
         CHECK.same("more on the right", right.cutFor(0), 2);
         CHECK.same("all on the right", right.cutFor(1), 0);
-        for (int sibling : OUTSIDE) {
-            CHECK.refused("cutFor of no sibling", cake, NO_INDEX, () -> cake.cutFor(sibling));
-        }
     }
 
     private static void welfareByKnife() {
@@ -46,9 +41,6 @@ public final class WouldBeTest {
         CakeDivision few = Cakes.of("cake 1;sibling a 3;sibling b 5;");
         CHECK.same("the first of a tie", few.welfareByKnife(0), 3);
         CHECK.same("nothing is left", few.welfareByKnife(1), 0);
-        for (int sibling : OUTSIDE) {
-            CHECK.refused("welfareByKnife of no sibling", cake, NO_INDEX, () -> cake.welfareByKnife(sibling));
-        }
     }
 
     private static void welfareByRobin() {
@@ -65,10 +57,6 @@ public final class WouldBeTest {
         }
         cake.give(0, 0, 7);
         CHECK.same("whoever owns the cells", cake.welfareByRobin(0, 0), 11);
-        for (int sibling : OUTSIDE) {
-            CHECK.refused("welfareByRobin of no sibling", cake, NO_INDEX, () -> cake.welfareByRobin(sibling, 0));
-            CHECK.refused("welfareByRobin from no sibling", cake, NO_INDEX, () -> cake.welfareByRobin(0, sibling));
-        }
     }
 
     private static void bestFirst() {
