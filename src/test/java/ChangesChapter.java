@@ -350,6 +350,7 @@ final class ChangesChapter extends Chapter {
             same("all but the first cell", afterKnife("cake 24;sibling a 1" + " 0".repeat(23) + ";sibling b 0"
                 + " 1".repeat(23) + ";"), "0" + "1".repeat(23));
             same("cells without worth for it", afterKnife("cake 3;sibling a 0 0 0;sibling b 1 0 0;"), "011");
+            same("cells behind its own mark", afterKnife("cake 3;sibling a 0 1 0;sibling b 1 0 0;"), "100");
             same("no cell is left for it", afterKnife("cake 2;sibling a 0 1;sibling b 0 1;"), "00");
         });
         says("Returns the number of satisfied siblings afterwards.", () -> {
@@ -426,6 +427,7 @@ final class ChangesChapter extends Chapter {
                 "cake 6;sibling a 1 0 2 0 2 0;sibling b 2 0 1 0 0 0;sibling c 1 1 1 1 1 1;", "0-1212");
             cake.rotate(0);
             same("free cells and other shares stay", Cakes.owners(cake), "1-0202");
+            longAndShortCycles();
         });
         says(SIBLING, () -> {
             rotates(0, "512340", "5", "", "", "", "", "0");
@@ -449,6 +451,29 @@ final class ChangesChapter extends Chapter {
         CakeDivision cake = Cakes.envying(envied);
         cake.rotate(sibling);
         owners(cake, owners);
+    }
+
+    /** Sibling i values the four cells of sibling i + 1 most, so that all six are one cycle. */
+    private void longAndShortCycles() {
+        StringBuilder setup = new StringBuilder("cake 24;");
+        for (int sibling = 0; sibling < 6; sibling++) {
+            setup.append("sibling ").append((char) ('a' + sibling));
+            for (int cell = 0; cell < 24; cell++) {
+                setup.append(cell / 4 == (sibling + 1) % 6 ? " 9" : cell / 4 == sibling ? " 1" : " 0");
+            }
+            setup.append(';');
+        }
+        CakeDivision all = shared(setup.toString(), BLOCKS);
+        same("all six and all cells", all.rotate(2), 6);
+        owners(all, "555500001111222233334444");
+        CakeDivision free = shared(setup.toString(), "0000111122223333444-555-");
+        same("all six and two free cells", free.rotate(0), 6);
+        owners(free, "5555000011112222333-444-");
+        CakeDivision shorter = Cakes.envying("3", "2", "1", "4", "5", "0");
+        same("a cycle of four", shorter.rotate(0), 4);
+        owners(shorter, "512034");
+        same("a cycle of two after it", shorter.rotate(1), 2);
+        owners(shorter, "521034");
     }
 
     private void runScript() {

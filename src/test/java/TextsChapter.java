@@ -141,6 +141,9 @@ final class TextsChapter extends Chapter {
     private void setups() {
         loadFails("", 1, 0);
         loadFails("1;sibling a 1;", 1, 0);
+        loadFails("bake 1;sibling a 1;", 1, 0);
+        loadFails("cakf 1;sibling a 1;", 1, 0);
+        loadFails("cak 1;sibling a 1;", 1, 0);
         loadFails("cake;sibling a 1;", 1, 4);
         loadFails("cake 1 sibling a 1;", 1, 7);
         loadFails("cake 1;", 1, 7);
@@ -155,6 +158,9 @@ final class TextsChapter extends Chapter {
 
     private void siblings() {
         loadFails("cake 1;a 1;", 1, 7);
+        loadFails("cake 1;tibling a 1;", 1, 7);
+        loadFails("cake 1;siblinh a 1;", 1, 7);
+        loadFails("cake 1;siblin a 1;", 1, 7);
         loadFails("cake 1;sibling 1;", 1, 15);
         loadFails("cake 1;sibling a;", 1, 16);
         loadFails("cake 1;sibling a 1 a;", 1, 19);
@@ -172,6 +178,7 @@ final class TextsChapter extends Chapter {
         scriptFails("knife;;", 1, 6);
         scriptFails("knife;knife", 1, 11);
         runs("knife;knife;");
+        runs("knife;".repeat(29));
         runs("knife;".repeat(30));
     }
 
@@ -205,6 +212,11 @@ final class TextsChapter extends Chapter {
         scriptFails(text.toString(), 1, text.length());
         scriptFails(text + " ann;", 1, text.length() + 1);
         scriptFails(text + " 0;", 1, text.length() + 1);
+        String rest = text.substring(word.length()) + ";";
+        scriptFails("z" + word.substring(1) + rest, 1, 0);
+        scriptFails(word.substring(0, word.length() - 1) + "z" + rest, 1, 0);
+        scriptFails(word.substring(0, word.length() - 1) + rest, 1, 0);
+        scriptFails(word + "z" + rest, 1, 0);
     }
 
     private void oneValueForEachCell() {
@@ -340,8 +352,10 @@ final class TextsChapter extends Chapter {
     }
 
     private void wrongNames() {
+        loads("cake 1;sibling abcde 1;");
         loads("cake 1;sibling abcdef 1;");
         loadFails("cake 1;sibling abcdefg 1;", 3, 15);
+        loadFails("cake 1;sibling abcdefgh 1;", 3, 15);
         loadFails("cake 1;sibling a 1;sibling a 1;", 3, 27);
         loadFails("cake 1;sibling a 1;sibling b 1;sibling a 1;", 3, 39);
         loads("cake 1;sibling ann 1;sibling bob 1;");

@@ -91,6 +91,10 @@ final class WelfareChapter extends Chapter {
             same("all cells for one of two",
                 Cakes.of("cake 3;sibling a 5 5 5;sibling b 4 4 4;").greatestContiguousWelfare(), 15);
             same("whoever owns the cells", shared(Busy.FIRST, "22222222").greatestContiguousWelfare(), 28);
+            CakeDivision lesser = Cakes.of(Cakes.equal(24, 6, 9));
+            same("a cake of much worth", lesser.greatestContiguousWelfare(), 216);
+            Cakes.load(lesser, Cakes.equal(24, 6, 1));
+            same("a cake of little worth after it", lesser.greatestContiguousWelfare(), 24);
         });
     }
 
@@ -106,7 +110,19 @@ final class WelfareChapter extends Chapter {
             same("one cell", smallest().bestLeastWelfare(), 1);
             same("one who values nothing", Cakes.of("cake 2;sibling a 9 9;sibling b 0 0;").bestLeastWelfare(), 0);
             same("whoever owns the cells", shared(Busy.FIRST, "22222222").bestLeastWelfare(), 5);
+            for (int total : new int[] {1, 127, 128, 129, 215, 216}) {
+                same("each worth of one", ofTotal(total).bestLeastWelfare(), total);
+            }
         });
+    }
+
+    /** One sibling and 24 cells with this total. */
+    private static CakeDivision ofTotal(int total) {
+        CakeDivision cake = Cakes.of(Cakes.equal(24, 1, 0));
+        for (int left = total, cell = 0; left > 0; left -= 9, cell++) {
+            cake.setValue(0, cell, Math.min(left, 9));
+        }
+        return cake;
     }
 
     private void cutCount() {
