@@ -302,9 +302,11 @@ final class TermsChapter extends Chapter {
         change("a script", cake -> Cakes.run(cake, "knife;swap ann bob;"));
         change("an empty script", cake -> Cakes.run(cake, ""));
         change("a script that stops at once", cake -> Cakes.run(cake, "swap ann ann;"));
-        CakeDivision full = shared(Busy.FIRST, "00000000");
+        CakeDivision full = first();
+        full.give(0, 0, 7);
         same("roundRobin without a free cell", full.roundRobin(0), 0);
-        same("its undoing", full.undo(), 5);
+        same("its undoing", full.undo(), 1);
+        same("the owners after it", Cakes.owners(full), "00000000");
         CakeDivision cycle = Cakes.envying("1", "0");
         cycle.rotate(0);
         same("undo of rotate", cycle.undo(), 2);
