@@ -1,90 +1,52 @@
+import java.io.IOException;
 import java.lang.reflect.Constructor;
 import java.lang.reflect.Field;
 import java.lang.reflect.Method;
 import java.lang.reflect.Modifier;
+import java.nio.file.Files;
+import java.nio.file.Path;
 import java.util.ArrayList;
 import java.util.Collections;
 import java.util.List;
 import java.util.Set;
 import java.util.TreeSet;
+import java.util.regex.Matcher;
+import java.util.regex.Pattern;
 
-/** The public face: just the constant, the constructor and the methods of the document. */
+/** The public face: just the constant, the constructor and the methods that the document lists. */
 public final class FaceTest {
-    private static final String[] METHODS = {
-        "int append(int,int,int,int,int) IllegalStateException",
-        "int truncate(int) IllegalArgumentException",
-        "int load() IllegalArgumentException",
-        "int errorCode()",
-        "int errorPosition()",
-        "int cellCount()",
-        "int siblingCount()",
-        "int nameByte(int,int) IndexOutOfBoundsException",
-        "int findSibling() NoSuchElementException",
-        "int value(int,int) IndexOutOfBoundsException",
-        "int owner(int) IndexOutOfBoundsException",
-        "int worth(int,int,int) IndexOutOfBoundsException IllegalArgumentException",
-        "int total(int) IndexOutOfBoundsException",
-        "int worthOfShare(int,int) IndexOutOfBoundsException",
-        "int shareSize(int) IndexOutOfBoundsException",
-        "int pieceCount(int) IndexOutOfBoundsException",
-        "int freeCount()",
-        "int mark(int,int,int) IndexOutOfBoundsException IllegalArgumentException",
-        "int favouriteFreeCell(int) IndexOutOfBoundsException",
-        "boolean envies(int,int) IndexOutOfBoundsException",
-        "boolean isMild(int,int) IndexOutOfBoundsException IllegalStateException",
-        "int envyCount()",
-        "int strongEnvyCount()",
-        "int mostEnvied()",
-        "boolean isSatisfied(int) IndexOutOfBoundsException",
-        "int satisfiedCount()",
-        "int envyCycleLength(int) IndexOutOfBoundsException",
-        "int envyCycleMember(int,int) IndexOutOfBoundsException NoSuchElementException",
-        "boolean wouldSwap(int,int) IndexOutOfBoundsException",
-        "int totalWelfare()",
-        "int leastWelfare()",
-        "long welfareProduct()",
-        "int greatestTotalWelfare()",
-        "int greatestContiguousWelfare()",
-        "int bestLeastWelfare()",
-        "int cutCount()",
-        "float satisfaction(int) IndexOutOfBoundsException",
-        "double meanPieces()",
-        "int inconsistencies()",
-        "int cutFor(int) IndexOutOfBoundsException",
-        "int welfareByKnife(int) IndexOutOfBoundsException",
-        "int welfareByRobin(int,int) IndexOutOfBoundsException",
-        "int bestFirst()",
-        "int give(int,int,int) IndexOutOfBoundsException IllegalArgumentException",
-        "int release(int,int) IllegalArgumentException",
-        "int swapShares(int,int) IndexOutOfBoundsException IllegalStateException",
-        "int setValue(int,int,int) IndexOutOfBoundsException IllegalArgumentException",
-        "int divideAndChoose(int,int) IndexOutOfBoundsException IllegalStateException",
-        "int movingKnife()",
-        "int roundRobin(int) IndexOutOfBoundsException",
-        "int rotate(int) IndexOutOfBoundsException IllegalStateException",
-        "int runScript() IllegalArgumentException",
-        "int undo() IllegalStateException",
-        "int save(int) IndexOutOfBoundsException",
-        "int restore(int) IndexOutOfBoundsException IllegalStateException",
-        "int writeOwners()",
-        "int outputByte(int) IndexOutOfBoundsException",
-    };
-
+    private static final Path DOCUMENT = Path.of("../shared/DOC.md");
+    private static final Pattern DUE_METHOD = Pattern.compile("public (\\w+ \\w+)\\(([^)]*)\\)( throws [\\w, ]+)?;");
+    private static final int METHODS = 57;
     private static final Check CHECK = new Check("FaceTest");
 
-    public static void main(String[] args) {
+    public static void main(String[] args) throws IOException {
         Class<CakeDivision> face = CakeDivision.class;
         CHECK.same("the modifiers", face.getModifiers(), Modifier.PUBLIC | Modifier.FINAL);
         CHECK.same("NONE", CakeDivision.NONE, -1);
-        checkMethods(face);
+        checkMethods(face, dueMethods());
         checkConstructors(face);
         checkFields(face);
         checkInnerNames(face);
         CHECK.finish();
     }
 
-    private static void checkMethods(Class<?> face) {
-        List<String> due = new ArrayList<>(List.of(METHODS));
+    /** The methods of "The public face", each as describe tells a method of the class. */
+    private static List<String> dueMethods() throws IOException {
+        String document = Files.readString(DOCUMENT);
+        int from = document.indexOf("## The public face");
+        Matcher matcher = DUE_METHOD.matcher(document.substring(from, document.indexOf("\n}\n", from)));
+        List<String> due = new ArrayList<>();
+        while (matcher.find()) {
+            String types = matcher.group(2).replaceAll("(\\w+) \\w+", "$1").replace(" ", "");
+            String exceptions = matcher.group(3) == null ? "" : matcher.group(3).replaceAll(" throws|,", "");
+            due.add(matcher.group(1) + "(" + types + ")" + exceptions);
+        }
+        CHECK.same("the number of methods in the document", due.size(), METHODS);
+        return due;
+    }
+
+    private static void checkMethods(Class<?> face, List<String> due) {
         List<String> got = new ArrayList<>();
         for (Method method : face.getDeclaredMethods()) {
             if (Modifier.isPublic(method.getModifiers())) {
